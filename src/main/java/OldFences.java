@@ -722,15 +722,16 @@ public final class OldFences {
         }
 
         static int moreCell(int border) {
-            return lessCell(border) + (border < FIRST_ACROSS ? 1 : SIDE);
+            return border < FIRST_ACROSS ? border / 5 * SIDE + border % 5 + 1 : border - FIRST_ACROSS + SIDE;
         }
 
+        /** The edge of a border that is not across runs down along the right side of its lesser cell. */
         static int lessCorner(int border) {
             if (border < FIRST_ACROSS) {
                 return border / 5 * 7 + border % 5 + 1;
             }
-            int place = border - FIRST_ACROSS;
-            return (place / SIDE + 1) * 7 + place % SIDE;
+            int cell = border - FIRST_ACROSS;
+            return (cell / SIDE + 1) * 7 + cell % SIDE;
         }
 
         static int moreCorner(int border) {

@@ -18,6 +18,10 @@ public final class FamiliesTest {
         Kit.due("the least of one home", x.family(0, 7), 18);
         Kit.due("none for the other one", x.family(1, 7), 0);
         Kit.due("the far one", x.family(2, 7), 18);
+        x.move(1, 10);
+        Kit.due("the second one has it", x.family(1, 7), 18);
+        Kit.due("none for the third one", x.family(2, 7), 0);
+        x.move(1, 7);
         x.move(2, 9);
         Kit.due("as near ones go to the least", x.family(0, 7), 18);
         Kit.due("the rest", x.family(2, 7), 18);
@@ -115,6 +119,11 @@ public final class FamiliesTest {
         Kit.due("oldest", x.oldest(), 1);
         Kit.due("highest", x.highest(true), 2);
         Kit.due("lowliest", x.highest(false), 1);
+        OldFences first = Kit.told("fence 0 1 age 4 high 8 string;fence 1 2 age 4 high 8");
+        Kit.due("oldest 0", first.oldest(), 0);
+        Kit.due("highest 0", first.highest(true), 0);
+        Kit.due("lowliest 0", first.highest(false), 0);
+        Kit.due("string 0", first.count(7), 1);
         x.raise(59);
         Kit.due("lowliest of 0", x.highest(false), 59);
         x.again(1, 8);
@@ -128,6 +137,12 @@ public final class FamiliesTest {
         Kit.due("the least of as sore ones", x.sorest(), 0);
         x.forgive(0);
         Kit.due("the other one", x.sorest(), 1);
+        x.forgive(1);
+        x.move(1, 35);
+        Kit.law(x, "sore 1");
+        x.years(1);
+        x.forgive(0);
+        Kit.due("sore by 1", x.sorest(), 2);
     }
 
     private static void twins() {

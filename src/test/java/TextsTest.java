@@ -64,6 +64,7 @@ public final class TextsTest {
 
     private static void countyTexts() {
         OldFences x = new OldFences();
+        Kit.due("no text", x.count(2), 0);
         Kit.due("first text", Kit.county(x, "fence 0 1 age 7 high 12 gate string; fence 6 0; row 4 high 999"), 1);
         due(x, 0, 1, 7, 12, 1, 1);
         due(x, 30, 1, 0, 0, 0, 0);
@@ -95,6 +96,10 @@ public final class TextsTest {
         Kit.due("gate of 1 and 7 sides", Kit.county(x, "fence 14 15 gate;fence 14 20 high 4 gate"), 7);
         due(x, 12, 1, 0, 0, 1, 0);
         due(x, 44, 1, 0, 4, 1, 0);
+        Kit.county(x, "fence 35 34 age 999 high 999;fence 29 35 age 1;year 999");
+        due(x, 29, 1, 999, 999, 0, 0);
+        due(x, 59, 1, 1, 0, 0, 0);
+        Kit.due("the highest year", x.count(4), 999);
         Kit.due("gates", x.count(6), 2);
         Kit.due("strings", x.count(7), 1);
     }
@@ -112,6 +117,9 @@ public final class TextsTest {
         Kit.dueWrongCounty("fence 5 6", 8);
         Kit.dueWrongCounty("fence 0 36", 8);
         Kit.dueWrongCounty("fence 0  7", 9);
+        Kit.dueWrongCounty("fence 30 36", 9);
+        Kit.dueWrongCounty("fence 35 36", 9);
+        Kit.dueWrongCounty("fence 35 1000", 9);
         Kit.dueWrongCounty("fence 0", 7);
         Kit.dueWrongCounty("fence 0 ", 8);
         Kit.dueWrongCounty("fence", 5);
@@ -128,6 +136,13 @@ public final class TextsTest {
         Kit.dueWrongCounty("fence0 1gatestring", 8);
         Kit.dueWrongCounty("fenced 0 1", 0);
         Kit.dueWrongCounty(" Fence 0 1", 1);
+        Kit.dueWrongCounty("fencez 0 1", 0);
+        Kit.dueWrongCounty("gence 0 1", 0);
+        Kit.dueWrongCounty("fenca 0 1", 0);
+        Kit.dueWrongCounty("fence`0 1", 5);
+        Kit.dueWrongCounty("fence{0 1", 5);
+        Kit.dueWrongCounty("fence 0/1", 7);
+        Kit.dueWrongCounty("fence 0:1", 7);
         Kit.dueWrongCounty("row 4 high 10;row 5 high 1", 18);
         Kit.dueWrongCounty("row 0", 5);
         Kit.dueWrongCounty("row 0 age 3", 6);
@@ -136,6 +151,14 @@ public final class TextsTest {
         Kit.dueWrongCounty("family 3", 7);
         Kit.dueWrongCounty("family at", 9);
         Kit.dueWrongCounty("family at 3", 11);
+        Kit.dueWrongCounty("family at 36 climbs 1", 10);
+        Kit.dueWrongCounty("family at 37 climbs 1", 10);
+        Kit.dueWrongCounty("family at 35 climbs 1000", 20);
+        Kit.dueWrongCounty("family at 35 climbs 1 eyes 1000", 27);
+        Kit.dueWrongCounty("row 0 high 1000", 11);
+        Kit.dueWrongCounty("fence 0 1 high 1000", 15);
+        Kit.dueWrongCounty("year 1000", 5);
+        Kit.dueWrongCounty("quarrel 101", 8);
         Kit.dueWrongCounty("family at 3 eyes 3", 12);
         Kit.dueWrongCounty("family at 3 climbs", 18);
         Kit.dueWrongCounty("family at 3 climbs 4 eyes", 25);
@@ -208,6 +231,9 @@ public final class TextsTest {
         holds(x, "high+age+x+y+border+0+001 < 52", 0, 1);
         holds(x, "2 < high", 1, 1);
         holds(x, "999 < high", 0, 0);
+        Kit.county(x, "fence 10 16 high 5");
+        Kit.law(x, "grow 1 if x < 5;grow 2 if x > 3;grow 4 if y < 2;grow 8 if y > 0;grow 16 if border < 41;grow 32 if border > 39");
+        Kit.due("x 4, y 1, border 40", x.border(40, 5), 63);
         // and binds before or
         holds(x, "gate or across and string", 1, 0);
         holds(x, "(gate or across) and string", 0, 0);
@@ -237,6 +263,8 @@ public final class TextsTest {
         Kit.due("12 lines", Kit.law(x, twelve), 12);
         Kit.due("a law in place of the one before", x.border(12, 5), 12);
         Kit.due("12 lines counted", x.count(3), 12);
+        Kit.due("no lines behind 12", Kit.law(x, ""), 0);
+        Kit.due("grows by none of them", x.border(12, 5), 0);
     }
 
     /** Whether a condition holds for BORDER 12 (a gate, not across) and 30 (across), one is held against the other. */
@@ -256,7 +284,14 @@ public final class TextsTest {
         Kit.dueWrongLaw("grow 1 if", 9);
         Kit.dueWrongLaw("grow 1 if ;", 10);
         Kit.dueWrongLaw("grow 1 if gate and", 18);
+        Kit.dueWrongLaw("grow 1 if gate or", 17);
         Kit.dueWrongLaw("grow 1 if gate or or gate", 18);
+        Kit.dueWrongLaw("grow 1 if gate and and gate", 19);
+        Kit.dueWrongLaw("trow 1", 0);
+        Kit.dueWrongLaw("grow 1 if (gate or", 18);
+        Kit.dueWrongLaw("grow 1 if string < 3", 17);
+        Kit.dueWrongLaw("grow 1 if not high", 18);
+        Kit.dueWrongLaw("grow 1 if not high )", 19);
         Kit.dueWrongLaw("grow 1 if gate gate", 15);
         Kit.dueWrongLaw("grow 1 if gate < 3", 15);
         Kit.dueWrongLaw("grow 1 if high < gate", 17);

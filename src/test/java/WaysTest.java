@@ -149,6 +149,9 @@ public final class WaysTest {
         Kit.due("lands of 30", x.lands(30), 1);
         Kit.due("lands of 999", x.lands(999), 1);
         Kit.due("wide of 30", x.wide(30), 36);
+        Kit.due("lands of 0 again", x.lands(0), 5);
+        Kit.due("wide of 20 behind lands of 0", x.wide(20), 30);
+        Kit.due("land of 30 behind wide of 20", x.land(0, 30), 36);
         // the first row from 1 to 4 in a line
         Kit.due("gaps of 0", x.gaps(0), 3);
         Kit.due("gaps of 25", x.gaps(25), 4);
@@ -169,6 +172,10 @@ public final class WaysTest {
         Kit.due("reach of three, higher", x.reach(), 30);
         x.again(35, 1);
         Kit.due("reach of three, lower", x.reach(), 20);
+        OldFences odd = Kit.told("row 1 high 21;family at 0 climbs 0;family at 35 climbs 0");
+        Kit.due("reach 21", odd.reach(), 21);
+        OldFences highest = Kit.told("row 1 high 999;family at 0 climbs 0;family at 35 climbs 0");
+        Kit.due("reach 999", highest.reach(), 999);
     }
 
     private static void ladders() {
@@ -203,6 +210,9 @@ public final class WaysTest {
         Kit.due("from the gap", x.walk(23, 27, 50), 4);
         Kit.due("turned", x.walk(27, 23, 50), 4);
         Kit.due("up the gate's edge", x.walk(15, 21, 50), 2);
+        Kit.due("border 0", x.walk(1, 8, 80), 1);
+        Kit.due("border 0, higher", x.walk(1, 8, 81), -1);
+        Kit.due("border 29", x.walk(40, 47, 5), 1);
         Kit.due("one corner", x.walk(48, 48, 999), 0);
         Kit.due("no edge at all", x.walk(0, 48, 0), -1);
         Kit.due("long of 0", x.hangs(0), 7);
@@ -263,6 +273,13 @@ public final class WaysTest {
         // in year 2 they would be 2, 1 and 0; in year 1 still 1, 0 and 0
         Kit.feed(x, few);
         Kit.due("ask parts them all", x.ask(), 2);
+        // what is cut off the tape counts no more
+        Kit.feed(x, 9, 9, 200, 0);
+        x.end(2);
+        Kit.due("one row", x.seen(false), fits(9, 9));
+        // by 3 from 14 and by 4 from 35 are parted first in 15
+        Kit.feed(x, 99, 255, 98, 252);
+        Kit.due("ask of two", x.ask(), 15);
         wrongSeen(x, 100, 5);
         wrongSeen(x, 5, 5, 255, 0);
         wrongSeen(x, 5);
@@ -315,6 +332,10 @@ public final class WaysTest {
         Kit.due("loses none, by others", x.loses(0, 43), 0);
         x.move(1, 0);
         Kit.due("gives from within", x.family(1, 8), 0);
+        OldFences free = Kit.told("fence 14 15 high 90;fence 8 9 high 90;fence 35 34 high 90 gate;fence 0 1 high 9;fence 0 6 high 9;family at 0 climbs 9");
+        Kit.due("gives none within one land", free.family(0, 8), -1);
+        OldFences other = Kit.told("fence 0 1 high 9;fence 0 6 high 9;fence 35 34 high 9;fence 35 29 high 9;fence 29 28 high 9;fence 29 23 high 9;family at 0 climbs 8");
+        Kit.due("gives the rest, not the far corner", other.family(0, 8), 0);
         OldFences deep = Kit.told("fence 0 1 high 9;fence 0 6 high 9;fence 1 2 high 9;fence 1 7 high 9;family at 0 climbs 8");
         Kit.due("one pull, all but one more", deep.family(0, 8), 30);
         deep.pull(30);
