@@ -1906,7 +1906,7 @@ public final class OldFences {
             Arrays.fill(cameBy, NONE);
             queue[0] = from;
             int length = 1;
-            for (int at = 0; at < length; at++) {
+            for (int at = 0; at < length && at < CELLS; at++) {
                 int cell = queue[at];
                 for (int direction = 0; direction < Grid.DIRECTIONS; direction++) {
                     int border = Grid.onSide(cell, direction);

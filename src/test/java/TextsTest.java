@@ -320,7 +320,13 @@ public final class TextsTest {
         Kit.dueWrongLaw(twelve + ";grow 1", 84);
         Kit.dueWrongLaw(twelve + "; ", 85);
         Kit.dueWrongLaw(twelve + "; +", 85);
+        Kit.dueWrongLaw(";".repeat(400), 0);
+        Kit.dueWrongCounty("year 1;" + ";".repeat(393), 7);
+        Kit.dueWrongCounty(" ".repeat(399) + "(", 399);
+        Kit.dueWrongCounty("year" + " ".repeat(396), 400);
         OldFences x = new OldFences();
+        Kit.due("400 bytes of things", Kit.law(x, "sink1if1" + "+1".repeat(195) + "<1"), 1);
+        Kit.due("398 bytes of nots", Kit.law(x, "grow1if " + "not(gate)or ".repeat(32) + "(gate)"), 1);
         Kit.due("6 deep, and again", Kit.law(x, "grow 1 if not not not not not not gate or not(not(not gate))"), 1);
     }
 

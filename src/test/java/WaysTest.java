@@ -336,6 +336,8 @@ public final class WaysTest {
         Kit.due("gives none within one land", free.family(0, 8), -1);
         OldFences other = Kit.told("fence 0 1 high 9;fence 0 6 high 9;fence 35 34 high 9;fence 35 29 high 9;fence 29 28 high 9;fence 29 23 high 9;family at 0 climbs 8");
         Kit.due("gives the rest, not the far corner", other.family(0, 8), 0);
+        OldFences two = Kit.told("fence 0 1 high 9;fence 0 6 high 9;fence 1 2 high 9;fence 1 7 high 9;family at 35 climbs 0");
+        Kit.due("gives none between two other lands", two.family(0, 8), 1);
         OldFences deep = Kit.told("fence 0 1 high 9;fence 0 6 high 9;fence 1 2 high 9;fence 1 7 high 9;family at 0 climbs 8");
         Kit.due("one pull, all but one more", deep.family(0, 8), 30);
         deep.pull(30);
