@@ -2111,7 +2111,7 @@ public final class OldFences {
 
         private static int payoff(County county, int family, int own, int others) {
             if (own == PULL) {
-                return others == PULL ? 5 : -(county.sore[family] / 10 + 1);
+                return others == PULL ? 5 : 1 - county.sore[family] / 10;
             }
             return others == PULL ? 3 : county.climbs[family] / 100;
         }

@@ -80,16 +80,38 @@ public final class FamiliesTest {
     }
 
     private static void rests() {
-        OldFences x = Kit.told("family at 0 climbs 0;family at 1 climbs 999;family at 7 climbs 99;fence 0 1 high 5");
-        // both pull: 5 is more than 3; both keep: 0 or more is more than 0 less 1 or more
-        Kit.due("both or none", x.rests(0, 1), 9);
-        Kit.due("turned", x.rests(1, 0), 9);
-        Kit.law(x, "sore 45");
-        x.years(2);
-        Kit.due("sore", x.rests(0, 2), 9);
+        OldFences x = Kit.told("family at 0 climbs 99;family at 21 climbs 999;family at 28 climbs 100;fence 0 6 high 5");
+        // both pull: 5 is more than 3; both keep: 0 of 99 climbs is less than the 1 of who pulls alone
+        Kit.due("both pull", x.rests(0, 1), 1);
+        Kit.due("turned", x.rests(1, 0), 1);
+        Kit.due("1 of 100 climbs is as much", x.rests(1, 2), 9);
+        Kit.due("as much, turned", x.rests(2, 1), 9);
+        x.learn(2, 99);
+        Kit.due("0 of 99 climbs is less", x.rests(1, 2), 1);
+        restsOfSore(x);
         Kit.dueArgument("of one", () -> x.rests(1, 1));
         Kit.dueBounds("of none", () -> x.rests(0, 3));
         Kit.dueBounds("of none twice", () -> x.rests(-1, -1));
+    }
+
+    /** Who pulls alone has less by its own SORE: 1 up to 9, 0 from 10 on, then below 0. */
+    private static void restsOfSore(OldFences x) {
+        Kit.law(x, "sore 9");
+        x.years(1);
+        Kit.due("sore 9, and 1 by pulling alone", x.rests(0, 1), 1);
+        Kit.law(x, "sore 1");
+        x.years(1);
+        Kit.due("sore 10, and 0 by pulling alone", x.rests(0, 1), 9);
+        Kit.due("sore 10, turned", x.rests(1, 0), 9);
+        Kit.due("the other one is not sore", x.rests(0, 2), 1);
+        Kit.due("the other one first", x.rests(2, 0), 1);
+        Kit.law(x, "sore 60");
+        x.years(2);
+        Kit.due("sore 99", x.rests(1, 0), 9);
+        x.forgive(0);
+        Kit.due("forgiven", x.rests(1, 0), 1);
+        x.learn(0, 100);
+        Kit.due("climbs 100", x.rests(1, 0), 9);
     }
 
     private static void odds() {

@@ -1214,7 +1214,7 @@ final class Model {
 
     private int has(int family, int own, int others) {
         Family f = s.families.get(family);
-        int[][] table = {{5, 0 - (f.sore / 10 + 1)}, {3, f.climbs / 100}};
+        int[][] table = {{5, 0 - f.sore / 10 + 1}, {3, f.climbs / 100}};
         return table[own][others];
     }
 
