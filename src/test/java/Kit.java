@@ -3,6 +3,7 @@ import java.util.NoSuchElementException;
 /** What the tests have in common: texts fed, answers compared, exceptions awaited. */
 final class Kit {
     private static int wrong = 0;
+    private static String trying = "";
 
     private Kit() {
     }
@@ -12,10 +13,19 @@ final class Kit {
         long run();
     }
 
+    /** What is told ahead of each answer from now on that is not due. */
+    static void trying(String what) {
+        trying = what;
+    }
+
+    static void fail(String what) {
+        wrong++;
+        System.out.println(trying + what);
+    }
+
     static void due(String what, long got, long want) {
         if (got != want) {
-            wrong++;
-            System.out.println(what + " answered " + got + ", due is " + want);
+            fail(what + " answered " + got + ", due is " + want);
         }
     }
 
@@ -27,8 +37,7 @@ final class Kit {
     static void dueThrow(String what, String name, Call call) {
         String got = thrownBy(call);
         if (!got.equals(name)) {
-            wrong++;
-            System.out.println(what + " threw " + got + ", due is " + name);
+            fail(what + " threw " + got + ", due is " + name);
         }
     }
 
