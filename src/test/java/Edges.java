@@ -112,6 +112,26 @@ final class Edges {
         return (int) ((seed & 0xFFFFFFFFL) / 65536 % 32768);
     }
 
+    // ---- texts ----
+
+    /** All words and signs of both kinds of texts, a number, and some things that are none. */
+    private static final String[] THINGS = ("fence row family quarrel year age high gate string at climbs eyes grow sink"
+            + " sore if or and not across border x y ; ( ) + < > 7 z fenc A \u00ff - , = & |").split(" ");
+
+    /** A check that a text is wrong at this byte. */
+    interface WrongText {
+        void check(String text, int fault);
+    }
+
+    /** Behind this text nothing else can stand than what is allowed, told with blanks between. */
+    static void dueNext(WrongText wrong, String text, String allowed) {
+        for (String thing : THINGS) {
+            if (!(" " + allowed + " ").contains(" " + thing + " ")) {
+                wrong.check(text + " " + thing, text.length() + 1);
+            }
+        }
+    }
+
     // ---- refused calls ----
 
     /** The call throws this, and all is as it would be without the call, the tape and fault(), too. */

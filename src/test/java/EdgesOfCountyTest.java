@@ -129,6 +129,8 @@ public final class EdgesOfCountyTest {
         due(x, 0, 1, 7, 9, 1, 0);
         Kit.dueWrongCounty("fence 0 1 gatestring", 10);
         Kit.dueWrongCounty("fences 0 1", 0);
+        Kit.dueWrongCounty("fencez 0 1", 0);
+        Kit.dueWrongCounty("fencea 0 1", 0);
         Kit.dueWrongCounty("fenc 0 1", 0);
         Kit.dueWrongCounty("fence`0 1", 5);
         Kit.dueWrongCounty("fence{0 1", 5);
@@ -371,6 +373,46 @@ public final class EdgesOfCountyTest {
         Kit.dueWrongCounty("fence 0 1; grow 3", 11);
         Kit.dueWrongCounty("family in 3", 7);
         Kit.dueWrongCounty("gate", 0);
+    }
+
+    @Says(promise = 4, sentence = "the begin of the first thing that cannot stand there")
+    static void noOtherThingStandsThere() {
+        String lines = "fence row family quarrel year";
+        Edges.dueNext(Kit::dueWrongCounty, "", lines);
+        Edges.dueNext(Kit::dueWrongCounty, "year 3;", lines);
+        Edges.dueNext(Kit::dueWrongCounty, "year", "7");
+        Edges.dueNext(Kit::dueWrongCounty, "year 3", ";");
+        Edges.dueNext(Kit::dueWrongCounty, "quarrel", "7");
+        Edges.dueNext(Kit::dueWrongCounty, "quarrel 3", ";");
+        Edges.dueNext(Kit::dueWrongCounty, "fence", "7");
+        Edges.dueNext(Kit::dueWrongCounty, "fence 1", "7");
+        Edges.dueNext(Kit::dueWrongCounty, "fence 1 7", "age high gate string ;");
+        Edges.dueNext(Kit::dueWrongCounty, "fence 1 7 age", "7");
+        Edges.dueNext(Kit::dueWrongCounty, "fence 1 7 age 3", "high gate string ;");
+        Edges.dueNext(Kit::dueWrongCounty, "fence 1 7 high", "7");
+        Edges.dueNext(Kit::dueWrongCounty, "fence 1 7 high 3", "gate string ;");
+        Edges.dueNext(Kit::dueWrongCounty, "fence 1 7 gate", "string ;");
+        Edges.dueNext(Kit::dueWrongCounty, "fence 1 7 string", ";");
+        Edges.dueNext(Kit::dueWrongCounty, "row", "");
+        Edges.dueNext(Kit::dueWrongCounty, "row 3", "high");
+        Edges.dueNext(Kit::dueWrongCounty, "row 3 high", "7");
+        Edges.dueNext(Kit::dueWrongCounty, "row 3 high 3", ";");
+        Edges.dueNext(Kit::dueWrongCounty, "family", "at");
+        Edges.dueNext(Kit::dueWrongCounty, "family at", "7");
+        Edges.dueNext(Kit::dueWrongCounty, "family at 3", "climbs");
+        Edges.dueNext(Kit::dueWrongCounty, "family at 3 climbs", "7");
+        Edges.dueNext(Kit::dueWrongCounty, "family at 3 climbs 3", "eyes ;");
+        Edges.dueNext(Kit::dueWrongCounty, "family at 3 climbs 3 eyes", "7");
+        Edges.dueNext(Kit::dueWrongCounty, "family at 3 climbs 3 eyes 3", ";");
+    }
+
+    @Says(promise = 4, sentence = "The first wrong byte: the begin of the first thing that cannot stand there")
+    static void asManyThingsAsBytes() {
+        Kit.dueWrongCounty(";".repeat(400), 0);
+        Kit.dueWrongCounty("year 1" + ";".repeat(394), 7);
+        Kit.dueWrongCounty("year 1;" + "x".repeat(393), 7);
+        Kit.dueWrongCounty("year 1;" + "7".repeat(393), 7);
+        Kit.dueWrongCounty("\u00ff".repeat(400), 0);
     }
 
     @Says(promise = 4, sentence = "of a LINE, a family too many, the first word")

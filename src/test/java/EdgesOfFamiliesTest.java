@@ -103,6 +103,25 @@ public final class EdgesOfFamiliesTest {
         Kit.due("the last family's", x.family(5, 7), 15);
     }
 
+    @Says(promise = 9, sentence = "CELLS that are nearer to its HOME than to that of any other one (X and Y apart, together")
+    static void sharesOfWhoLivesAside() {
+        // the first cell is nearer to itself alone than to the one beside it; a column is split by its middle
+        OldFences x = Kit.told("family at 0 climbs 0;family at 1 climbs 0");
+        Kit.due("its own column", x.family(0, 7), 6);
+        Kit.due("the other five columns", x.family(1, 7), 30);
+        x.move(1, 6);
+        Kit.due("its own row", x.family(0, 7), 6);
+        Kit.due("the other five rows", x.family(1, 7), 30);
+        x.move(1, 3);
+        Kit.due("two columns", x.family(0, 7), 12);
+        x.move(0, 35);
+        x.move(1, 29);
+        Kit.due("the last row", x.family(0, 7), 6);
+        Kit.due("all but the last row", x.family(1, 7), 30);
+        x.move(1, 33);
+        Kit.due("the last two columns, of which one is as near", x.family(0, 7), 12);
+    }
+
     @Says(promise = 9, sentence = "by whose pulling its WAYS are the most (more than now; of several the least; none)")
     static void givesOfNone() {
         OldFences x = Kit.told("family at 0 climbs 30");
@@ -215,6 +234,9 @@ public final class EdgesOfFamiliesTest {
         // as near to one another all around: the first one goes with the least of the others
         OldFences ring = Kit.told("family at 14 climbs 0;family at 15 climbs 0;family at 20 climbs 0;family at 21 climbs 0");
         duePairs(ring, 2, 1, 0, 3, 2);
+        OldFences near = Kit.told("family at 14 climbs 0;family at 14 climbs 0;family at 15 climbs 0;"
+                + "family at 17 climbs 0");
+        duePairs(near, 2, 1, 0, 3, 2);
         OldFences line = Kit.told("family at 1 climbs 0;family at 0 climbs 0;family at 2 climbs 0");
         duePairs(line, 1, 1, 0, -1);
     }
@@ -354,6 +376,21 @@ public final class EdgesOfFamiliesTest {
         x.forgive(2);
         Kit.due("forgiven", x.sorest(), -1);
         Edges.changesNothing("sorest", Edges.lively("").sorest(), y -> y.sorest());
+    }
+
+    @Says(promise = 48, sentence = "SOREST: the family of the most SORE")
+    static void sorestOfTheFirstAndTheLast() {
+        OldFences x = Kit.told(SIX + ";fence 0 1");
+        Kit.due("none of six is sore", x.sorest(), -1);
+        Kit.law(x, "sore 1 if border < 1");
+        x.years(1);
+        Kit.due("of six the least", x.sorest(), 0);
+        for (int family = 0; family < 5; family++) {
+            x.forgive(family);
+        }
+        Kit.due("the last one", x.sorest(), 5);
+        x.forgive(5);
+        Kit.due("none", x.sorest(), -1);
     }
 
     // ---- 49: twins ----

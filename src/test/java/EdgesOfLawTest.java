@@ -107,6 +107,10 @@ public final class EdgesOfLawTest {
         holds(x, "high + 1 > 999", 0, true);
         holds(x, "999+999+999 > 999+999+998", 0, true);
         holds(x, "0 < 000", 0, false);
+        x.raise(59);
+        holds(x, "0 > 0", 59, false);
+        holds(x, "0 < 1", 59, true);
+        holds(x, "1 > 0", 59, true);
         holds(x, "007 > 6", 0, true);
         Kit.dueWrongLaw("grow 1 if high > 1000", 17);
         Kit.dueWrongLaw("grow 1 if high > 0999", 17);
@@ -135,6 +139,23 @@ public final class EdgesOfLawTest {
         holds(x, "across", 30, true);
         holds(x, "across", 0, false);
         holds(x, "across", 59, true);
+    }
+
+    @Says(promise = 5, sentence = "ATOM: not ATOM | ( C ) | gate | string | across")
+    static void whatIsAndWhatIsNot() {
+        OldFences x = Kit.told("fence 0 1 gate;fence 1 2 string;fence 0 6;fence 1 7 gate string");
+        // a string never grows, so that it is seen by whom it makes sore
+        int[] borders = {0, 1, 30, 31};
+        int[][] due = {{1, 0, 0, 1}, {0, 1, 0, 1}, {0, 0, 1, 1}};
+        String[] words = {"gate", "string", "across"};
+        for (int word = 0; word < words.length; word++) {
+            for (int i = 0; i < borders.length; i++) {
+                Kit.law(x, "sore 1 if " + words[word]);
+                Kit.due(words[word] + " of " + borders[i], x.border(borders[i], 6), due[word][i]);
+                Kit.law(x, "sore 1 if not " + words[word]);
+                Kit.due("not " + words[word] + " of " + borders[i], x.border(borders[i], 6), 1 - due[word][i]);
+            }
+        }
     }
 
     @Says(promise = 5, sentence = "x, y: of the CELL of the less number of its two")
@@ -210,6 +231,39 @@ public final class EdgesOfLawTest {
         Kit.dueWrongLaw("grow 1 if gate = 3", 15);
         Kit.dueWrongLaw("grow 1 if gate < 3", 15);
         Kit.dueWrongLaw("grow 1 ; if gate", 9);
+    }
+
+    @Says(promise = 5, sentence = "the begin of the first thing that cannot stand there")
+    static void noOtherThingStandsThere() {
+        Edges.dueNext(Kit::dueWrongLaw, "", "grow sink sore");
+        Edges.dueNext(Kit::dueWrongLaw, "grow", "7");
+        Edges.dueNext(Kit::dueWrongLaw, "sink 3", "if ;");
+        Edges.dueNext(Kit::dueWrongLaw, "sore 3;", "grow sink sore");
+        String atoms = "not ( gate string across 7 border age high x y year";
+        Edges.dueNext(Kit::dueWrongLaw, "grow 3 if", atoms);
+        Edges.dueNext(Kit::dueWrongLaw, "grow 3 if (", atoms);
+        Edges.dueNext(Kit::dueWrongLaw, "grow 3 if not", atoms);
+        Edges.dueNext(Kit::dueWrongLaw, "grow 3 if gate or", atoms);
+        Edges.dueNext(Kit::dueWrongLaw, "grow 3 if gate and", atoms);
+        Edges.dueNext(Kit::dueWrongLaw, "grow 3 if gate", "and or ;");
+        Edges.dueNext(Kit::dueWrongLaw, "grow 3 if (gate", "and or )");
+        Edges.dueNext(Kit::dueWrongLaw, "grow 3 if (gate)", "and or ;");
+        Edges.dueNext(Kit::dueWrongLaw, "grow 3 if high", "+ < >");
+        Edges.dueNext(Kit::dueWrongLaw, "grow 3 if high <", "7 border age high x y year");
+        Edges.dueNext(Kit::dueWrongLaw, "grow 3 if high +", "7 border age high x y year");
+        Edges.dueNext(Kit::dueWrongLaw, "grow 3 if high > 3", "+ and or ;");
+        Edges.dueNext(Kit::dueWrongLaw, "grow 3 if (high > 3", "+ and or )");
+    }
+
+    @Says(promise = 5, sentence = "The first wrong byte: the begin of the first thing that cannot stand there")
+    static void asManyThingsAsBytes() {
+        Kit.dueWrongLaw(";".repeat(400), 0);
+        Kit.dueWrongLaw("grow 1" + ";".repeat(394), 7);
+        Kit.dueWrongLaw("sink1if" + "(".repeat(393), 13);
+        Kit.dueWrongLaw("sink1if0" + "+1".repeat(196), 400);
+        Kit.dueWrongLaw("sink1if0" + "+1".repeat(195) + "<", 399);
+        OldFences x = new OldFences();
+        Kit.due("400 bytes", Kit.law(x, "sink1if0" + "+1".repeat(195) + "<1"), 1);
     }
 
     @Says(promise = 5, sentence = "or the text's length, if more must come")

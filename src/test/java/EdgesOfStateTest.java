@@ -233,6 +233,21 @@ public final class EdgesOfStateTest {
     }
 
     @Says(promise = 53, sentence = "the YEAR of the latest (none)")
+    static void theLatestBehindRowsOfOthers() {
+        OldFences x = new OldFences();
+        x.raise(0);
+        x.years(1);
+        x.pull(0);
+        x.years(1);
+        x.raise(1);
+        x.raise(2);
+        Kit.due("the year of the pulling", x.led(0, true), 1);
+        Kit.due("two rows", x.led(0, false), 2);
+        Kit.due("the year of the one put up", x.led(1, true), 2);
+        Kit.due("none of another one", x.led(3, true), -1);
+    }
+
+    @Says(promise = 53, sentence = "the YEAR of the latest (none)")
     static void ledOfTheYearZero() {
         OldFences x = new OldFences();
         x.raise(0);
@@ -284,6 +299,46 @@ public final class EdgesOfStateTest {
             Kit.due("the year " + ago + " ago", x.log(ago, 0), 121 - ago);
         }
         Kit.due("none behind", x.log(60, 0), -2);
+    }
+
+    @Says(promise = 54, sentence = "all is as ahead of it")
+    static void aRowThatWasPushedOutComesBack() {
+        OldFences x = new OldFences();
+        for (int i = 0; i < 60; i++) {
+            x.raise(i);
+        }
+        x.image();
+        x.pull(7);
+        x.pull(8);
+        dueRow(x, 59, 0, 2, 1, -1, 0);
+        x.undo();
+        x.undo();
+        dueRow(x, 59, 0, 0, 1, -1, 0);
+        dueRow(x, 0, 0, 59, 1, -1, 0);
+        x.pull(9);
+        x.pull(10);
+        x.pull(11);
+        x.back();
+        dueRow(x, 59, 0, 0, 1, -1, 0);
+        dueRow(x, 57, 0, 2, 1, -1, 0);
+        Kit.due("60 rows", x.count(10), 60);
+    }
+
+    @Says(promise = 54, sentence = "THE IMAGE (one) of all may be kept, and gone back to")
+    static void allRowsComeBack() {
+        OldFences x = new OldFences();
+        for (int i = 0; i < 60; i++) {
+            x.raise(i);
+        }
+        x.image();
+        for (int i = 0; i < 60; i++) {
+            x.pull(59 - i);
+        }
+        x.back();
+        for (int ago = 0; ago < 60; ago++) {
+            Kit.due("log(" + ago + ", 1)", x.log(ago, 1), 59 - ago);
+            Kit.due("log(" + ago + ", 2)", x.log(ago, 2), 1);
+        }
     }
 
     @Says(promise = 54, sentence = "YEAR, the BORDER, 0 to 3, the family (none of 1 to 3), HIGH that it was (0 of 0, 1)")

@@ -380,6 +380,11 @@ public final class EdgesOfWaysTest {
         Kit.due("a corner", x.closes(0, 21, 30), 2);
         Kit.due("a corner and what is beside", x.closes(35, 34, 30), 2);
         Kit.due("without fences", new OldFences().closes(14, 21, 0), 4);
+        OldFences shut = Kit.told("fence 0 1 high 30;fence 34 35 high 29");
+        Kit.due("the first border shut", shut.closes(0, 21, 29), 1);
+        Kit.due("open again", shut.closes(0, 21, 30), 2);
+        Kit.due("the last but one shut", shut.closes(21, 35, 28), 1);
+        Kit.due("shut once more", shut.closes(0, 35, 29), 1);
         Kit.due("winding around", winding().closes(0, 30, 0), 1);
         Kit.due("winding around, the last height but one", winding().closes(0, 30, 998), 1);
         Kit.due("winding around, the last height", winding().closes(0, 30, 999), 2);
