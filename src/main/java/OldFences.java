@@ -316,7 +316,7 @@ public final class OldFences {
         for (int family = 0; family < now.families; family++) {
             boolean isSeen = false;
             for (int other = 0; other < now.families; other++) {
-                isSeen |= other != family && neighbours.doesSee(now, other, now.home[family]);
+                isSeen = isSeen || other != family && neighbours.doesSee(now, other, now.home[family]);
             }
             bits |= isSeen ? 0 : 1 << family;
         }
