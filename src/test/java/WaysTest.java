@@ -7,6 +7,7 @@ public final class WaysTest {
         sights();
         pulls();
         closes();
+        closesOfWindingWays();
         lands();
         ladders();
         tops();
@@ -133,6 +134,25 @@ public final class WaysTest {
         x.raise(43);
         x.years(1);
         Kit.due("none left", x.closes(8, 27, 0), 0);
+    }
+
+    /** Here the ways found first must give borders back to later ones, and these be gone along again. */
+    private static void closesOfWindingWays() {
+        Kit.due("three sides of cell 9", fencedOn(2, 4, 8, 28, 45, 46).closes(21, 9, 0), 3);
+        Kit.due("three sides of cell 13", fencedOn(2, 11, 13, 15, 17, 40, 42, 51, 58).closes(15, 13, 0), 3);
+        Kit.due("three sides of cell 1", fencedOn(7, 20, 22, 28, 33, 40, 43, 48, 49, 50).closes(28, 1, 0), 3);
+        Kit.due("two ways", fencedOn(5, 10, 16, 19, 20, 24, 26, 36, 40, 42, 46, 52, 58).closes(1, 31, 0), 2);
+        Kit.due("four sides", fencedOn(0, 1, 11, 14, 15, 16, 24, 34, 36, 45, 59).closes(27, 8, 0), 4);
+    }
+
+    /** Fences on these borders, each high 1. */
+    private static OldFences fencedOn(int... borders) {
+        OldFences x = new OldFences();
+        for (int border : borders) {
+            x.raise(border);
+        }
+        x.years(1);
+        return x;
     }
 
     private static void lands() {
